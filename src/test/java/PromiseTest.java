@@ -282,6 +282,7 @@ public final class PromiseTest {
         due("one twice", x.comes(3, 0, 100, 0), NO);
         due("another one", x.comes(3, 0, 102, 0), NO);
         due("no 1 ahead", x.comes(3, 0, 201, 0), NO);
+        due("a 2 ahead of one alone", x.comes(1, 0, 20, 0), NO);
         due("no digits", x.comes(1, 0, 1, 0), NO);
         due("below 0", x.comes(3, 0, -101, 0), NO);
         due("no field", x.comes(0, 0, 1, 0), NO);
@@ -421,6 +422,9 @@ public final class PromiseTest {
         faultIs("next1;foo", 6);
         faultIs("nextlead;", 0);
         faultIs("next leads;", 5);
+        faultIs("next leadz;", 5);
+        faultIs("next bead;", 5);
+        faultIs("next 1;hold 2;say" + " ".repeat(141) + "34", 160);
         faultIs("next Lead;", 5);
         faultIs("next\t1;", 4);
         faultIs("next 1\r;", 6);
@@ -499,7 +503,8 @@ public final class PromiseTest {
         saysOf("8192*8192*32", Integer.MIN_VALUE);
         saysOf("-(8192*8192*32)", Integer.MIN_VALUE);
         saysOf("0<8192*8192*32", 0);
-        saysOf("1 or 1 and 1 = 1 + 1 * (1 or 1 and 1 = 1 + 1 * (1 or 1 and 1 = 1 + 1 * (0)))", 1);
+        saysOf("0 or 1 and 2=0+2*(".repeat(5) + "1" + ")".repeat(5), 1);
+        saysOf("0 or 1 and 2=0+2*(".repeat(5) + "0 or 1 and 2=0+2*0" + ")".repeat(5), 0);
     }
 
     private static void force() {
