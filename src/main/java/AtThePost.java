@@ -362,9 +362,10 @@ public final class AtThePost {
 
     public int season(int field, int when, int seed, int horse, int what) {
         if (!isField(field) || !isWhen(when) || !isWithin(when % DAYS, 1, MOST_IN_SEASON)
-                || !isWithin(seed, 0, MOST_SEED) || !isIn(field, horse) || !isWithin(what, 0, 1)) {
+                || !isWithin(seed, 0, MOST_SEED) || !isHorse(horse) || !isWithin(what, 0, 1)) {
             return BAD;
         }
+        // One outside the field may be asked for too: it never wins and keeps the lead that is taken here.
         takeLeads();
         Arrays.fill(trialWins, 0);
         long lot = seed + 1;

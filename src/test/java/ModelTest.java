@@ -595,7 +595,7 @@ public final class ModelTest {
 
         int season(int field, int when, int seed, int horse, int what) {
             if (!good(field, when) || when % 100 < 1 || when % 100 > 12 || seed < 0 || seed > 99999
-                    || !in(field).contains(horse) || what < 0 || what > 1) {
+                    || horse < 0 || horse >= hs.size() || what < 0 || what > 1) {
                 return -2;
             }
             int[] l = leads();

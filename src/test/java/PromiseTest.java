@@ -721,7 +721,13 @@ public final class PromiseTest {
         due("seed -1", x.season(3, 1, -1, 0, 0), -2);
         due("seed 100000", x.season(3, 1, 100000, 0, 0), -2);
         due("horse 2", x.season(3, 1, 0, 2, 0), -2);
-        due("it isn't in the field", x.season(1, 1, 0, 1, 0), -2);
+        due("horse -1", x.season(3, 1, 0, -1, 0), -2);
+        x.set(1, 2, 17);
+        due("one outside the field never wins", x.season(1, 12, 0, 1, 0), 0);
+        due("one outside the field keeps its lead", x.season(1, 12, 0, 1, 1), 17);
+        due("also behind a season that it ran in", x.season(3, 12, 0, 1, 0) + x.season(1, 12, 0, 1, 0),
+                x.season(3, 12, 0, 1, 0));
+        x.set(1, 2, 0);
         due("no field", x.season(0, 1, 0, 0, 0), -2);
         due("what 2", x.season(3, 1, 0, 0, 2), -2);
         due("what -1", x.season(3, 1, 0, 0, -1), -2);
