@@ -1087,10 +1087,7 @@ public final class AtThePost {
         /** From the last one on: in how many ways it and those behind it come in so, by how it varies. */
         int casesInOrder(int[] placed) {
             int size = Math.min(Integer.bitCount(field), placed.length);
-            Arrays.fill(tails, 0);
-            for (int v = 0; v < variants(); v++) {
-                tails[v] = 1;
-            }
+            Arrays.fill(tails, 1);
             for (int place = size - 2; place >= 0; place--) {
                 lengthenTails(bases[placed[place]], bases[placed[place + 1]]);
             }

@@ -1,78 +1,38 @@
 // For each promise of the document its plain answers, its edges and its refusals, worked out by hand.
-public final class PromiseTest {
-    private static final long NO = -4611686018427387904L;
-    private static int wrong = 0;
-    private static int promise = 0;
-
-    private static void due(String call, long got, long want) {
-        if (got != want) {
-            wrong++;
-            System.out.println("promise " + promise + ": " + call + " answered " + got + ", due is " + want);
-        }
-    }
-
-    private static void fed(AtThePost x, String text) {
-        for (int i = 0; i < text.length(); i += 8) {
-            int n = Math.min(8, text.length() - i);
-            long bytes = 0;
-            for (int k = 0; k < n; k++) {
-                bytes |= (long) (text.charAt(i + k) & 255) << 8 * k;
-            }
-            x.feed(n, bytes);
-        }
-    }
-
-    private static AtThePost withHorses(int... strengths) {
-        AtThePost x = new AtThePost();
-        for (int strength : strengths) {
-            x.horse(0, strength, 5000);
-        }
-        return x;
-    }
-
-    private static AtThePost ruledBy(AtThePost x, String text) {
-        fed(x, text);
-        due("text() of " + text, x.text(), 1);
-        due("force(1)", x.force(1), 0);
-        return x;
-    }
-
+public final class PromiseTest extends Checks {
     public static void main(String[] args) {
-        promise = 1; newObject();
-        promise = 2; horse();
-        promise = 3; set();
-        promise = 4; pound();
-        promise = 5; form();
-        promise = 6; told();
-        promise = 7; wins();
-        promise = 8; comes();
-        promise = 9; worse();
-        promise = 10; even();
-        promise = 11; near();
-        promise = 12; lay();
-        promise = 13; feed();
-        promise = 14; text(); values();
-        promise = 15; force();
-        promise = 16; race();
-        promise = 17; raceTold();
-        promise = 18; against();
-        promise = 19; learnt();
-        promise = 20; pair();
-        promise = 21; holding();
-        promise = 22; yards();
-        promise = 23; season();
-        promise = 24; image();
-        promise = 25; back();
-        promise = 26; count();
-        promise = 27; sheet();
-        promise = 28; cell();
-        promise = 29; copy();
-        promise = 30; horses();
-        promise = 31; taken();
-        System.out.println(wrong == 0 ? "all answers are as due" : wrong + " answers are not as due");
-        if (wrong != 0) {
-            System.exit(1);
-        }
+        sentence("promise 1"); newObject();
+        sentence("promise 2"); horse();
+        sentence("promise 3"); set();
+        sentence("promise 4"); pound();
+        sentence("promise 5"); form();
+        sentence("promise 6"); told();
+        sentence("promise 7"); wins();
+        sentence("promise 8"); comes();
+        sentence("promise 9"); worse();
+        sentence("promise 10"); even();
+        sentence("promise 11"); near();
+        sentence("promise 12"); lay();
+        sentence("promise 13"); feed();
+        sentence("promise 14"); text(); values();
+        sentence("promise 15"); force();
+        sentence("promise 16"); race();
+        sentence("promise 17"); raceTold();
+        sentence("promise 18"); against();
+        sentence("promise 19"); learnt();
+        sentence("promise 20"); pair();
+        sentence("promise 21"); holding();
+        sentence("promise 22"); yards();
+        sentence("promise 23"); season();
+        sentence("promise 24"); image();
+        sentence("promise 25"); back();
+        sentence("promise 26"); count();
+        sentence("promise 27"); sheet();
+        sentence("promise 28"); cell();
+        sentence("promise 29"); copy();
+        sentence("promise 30"); horses();
+        sentence("promise 31"); taken();
+        end();
     }
 
     private static void newObject() {
