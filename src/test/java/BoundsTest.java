@@ -29,6 +29,7 @@ public final class BoundsTest extends Checks {
         tellings();
         rulesForced();
         order();
+        lastCall();
         end();
     }
 
@@ -578,5 +579,26 @@ public final class BoundsTest extends Checks {
         refused(Starts.ALL, "race: BAD ahead of FULL", x -> x.race(49, 101, 0), BAD);
         refused(Starts.ALL, "race: BAD anew ahead of FULL", x -> x.race(50, 101, 2), BAD);
         refused(Starts.ALL, "taken: BAD ahead of -11", x -> x.taken(10, 6), BAD);
+    }
+
+    /** Six calls at first and five in each of 101 turns, of those that put something by. */
+    private static void lastCall() {
+        sentence("An object is used for at most 512 calls");
+        AtThePost x = withHorses(50, 50, 50, 50, 50);
+        x.image();
+        for (int turn = 0; turn < 101; turn++) {
+            due("race(0, 104321, 1) in turn " + turn, x.race(0, 104321, 1), 0);
+            due("feed(8, 0) in turn " + turn, x.feed(8, 0L), 8);
+            due("text() in turn " + turn, x.text(), -100);
+            due("sheet() in turn " + turn, x.sheet(turn % 3, turn % 3, 40), 1);
+            due("back() in turn " + turn, x.back(), 0);
+        }
+        due("the 512th", x.holding(31, 5, 0, 999, 1), 0);
+        AtThePost y = withHorses(51, 50);
+        for (int turn = 0; turn < 254; turn++) {
+            due("season in turn " + turn, y.season(3, 12, 0, 0, 0) + y.season(3, 12, 0, 1, 0), 12);
+        }
+        due("the 511th", y.told(0, 5), 0);
+        due("the 512th", y.wins(3, 0, 0, 0), 7);
     }
 }
