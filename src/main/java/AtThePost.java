@@ -551,7 +551,7 @@ public final class AtThePost {
     }
 
     private Horse horseAt(int horse) {
-        return isHorse(horse) ? stable[horse] : null;
+        return horse >= 0 && horse < horseCount ? stable[horse] : null;
     }
 
     private Race raceAt(int race) {
@@ -805,7 +805,7 @@ public final class AtThePost {
         int gain = 0;
         for (int day = 0; day <= last; day++) {
             boolean isLet = (days >> day & 1) == 1;
-            boolean won = isLet && ratingOf(horse, lead, ground, day) > bestOfOthers(field, horse, ground, day);
+            boolean won = isLet && beatsOthers(field, horse, lead, ground, day);
             if (won) {
                 gain += day == last ? prize : EARLY_PRIZE;
             }
@@ -817,14 +817,14 @@ public final class AtThePost {
         return gain;
     }
 
-    private int bestOfOthers(int field, int horse, int ground, int day) {
-        int best = Integer.MIN_VALUE;
+    private boolean beatsOthers(int field, int horse, int lead, int ground, int day) {
+        int rating = ratingOf(horse, lead, ground, day);
         for (int h = 0; h < horseCount; h++) {
-            if (h != horse && isIn(field, h)) {
-                best = Math.max(best, ratingOf(h, leadOf(h), ground, day));
+            if (h != horse && isIn(field, h) && ratingOf(h, leadOf(h), ground, day) >= rating) {
+                return false;
             }
         }
-        return best;
+        return true;
     }
 
     // ---- seasons
@@ -917,7 +917,7 @@ public final class AtThePost {
 
         /** One that is grown up is below no age, so it gains nothing and loses nothing. */
         private int promise() {
-            return Math.max(0, GROWN_UP - age) * number / 2;
+            return age < GROWN_UP ? (GROWN_UP - age) * number / 2 : 0;
         }
     }
 
@@ -1122,7 +1122,7 @@ public final class AtThePost {
 
         int gap() {
             int most = 0;
-            int least = Integer.MAX_VALUE;
+            int least = WHOLE_WIN * cases();
             for (int h = 0; h < MOST_HORSES; h++) {
                 if (runs(h)) {
                     most = Math.max(most, shares[h]);

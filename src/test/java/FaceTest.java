@@ -123,7 +123,7 @@ public final class FaceTest {
             calls.add(call.group(1));
         }
         calls.removeAll(List.of("Arrays.fill", "Arrays.copyOf", "Math.max", "Math.min", "Math.abs", "Integer.bitCount",
-                "Integer.MIN_VALUE", "Integer.MAX_VALUE", "System.arraycopy"));
+                "System.arraycopy"));
         due("no other library: " + calls, calls.isEmpty());
         due("signs 10 and 32 to 126 alone", text.matches("[\\n\\x20-\\x7e]*"));
         int length = 0;
